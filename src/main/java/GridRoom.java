@@ -45,6 +45,8 @@ public final class GridRoom {
     private final Census census;
     private final int[] out = new int[2 * MOST_PLACES];
     private int outSize;
+    /** The CELLS of the NAME that was spelled last. */
+    private final int[] cells = new int[MOST_LETTERS];
 
     public GridRoom() {
         archive = new Archive();
@@ -200,7 +202,7 @@ public final class GridRoom {
     }
 
     public int pairs(int c, int a, int b, int known) {
-        if (!isSign(a) || !isSign(b) || !see(known) || c < 0 || c >= archive.current.clauses) {
+        if (!isSign(a) || !isSign(b) || !seeGrid(known) || c < 0 || c >= archive.current.clauses) {
             return NONE;
         }
         int x = archive.stand[a];
@@ -208,28 +210,25 @@ public final class GridRoom {
         if (x == y) {
             return 0;
         }
-        grid.make();
         return grid.tells[c][pairOf(x, y)];
     }
 
     public int links(int sort, int known) {
-        if (!isSort(sort) || !see(known)) {
+        if (!isSort(sort) || !seeGrid(known)) {
             return NONE;
         }
-        grid.make();
         return grid.linkCount(sort);
     }
 
     public int classOf(int sort, int s, int known) {
-        if (!isSort(sort) || !isSign(s) || !see(known)) {
+        if (!isSort(sort) || !isSign(s) || !seeGrid(known)) {
             return NONE;
         }
-        grid.make();
         return leastOf(grid.classes[sort][archive.stand[s]]);
     }
 
     public int clash(int known, int what) {
-        if (!see(known)) {
+        if (!seeGrid(known)) {
             return NONE;
         }
         firstClash.make();
@@ -251,7 +250,7 @@ public final class GridRoom {
     }
 
     public int reason(int known, int i, int what) {
-        if (!see(known)) {
+        if (!seeGrid(known)) {
             return NONE;
         }
         firstClash.make();
@@ -276,19 +275,24 @@ public final class GridRoom {
         if (!archive.hasName(name) || !see(known)) {
             return NONE;
         }
-        return search.spellAlone(archive.names[name]);
+        return spellName(name);
     }
 
     public int cell(int name, int i, int known) {
         if (!archive.hasName(name) || !see(known)) {
             return NONE;
         }
-        int size = search.spellAlone(archive.names[name]);
-        return i >= 0 && i < size ? search.cellsAt[0][i] : NONE;
+        int size = spellName(name);
+        return i >= 0 && i < size ? cells[i] : NONE;
+    }
+
+    private int spellName(int name) {
+        Name spelt = archive.names[name];
+        return archive.current.spell(spelt.letters, spelt.size, cells);
     }
 
     public int ways(int known) {
-        if (!see(known)) {
+        if (!seeGrid(known)) {
             return NONE;
         }
         census.countWays();
@@ -296,21 +300,21 @@ public final class GridRoom {
     }
 
     public int way(int known, int k, int name) {
-        if (k < 0 || !archive.hasName(name) || !see(known) || !search.findWay(k)) {
+        if (k < 0 || !archive.hasName(name) || !seeGrid(known) || !search.findWay(k)) {
             return NONE;
         }
         return search.rowOfName(name);
     }
 
     public int given(int known, int k, int s) {
-        if (k < 0 || !isSign(s) || !see(known) || !search.findWay(k)) {
+        if (k < 0 || !isSign(s) || !seeGrid(known) || !search.findWay(k)) {
             return NONE;
         }
         return search.cellOf[archive.stand[s]];
     }
 
     public int forced(int known, int s) {
-        if (!isSign(s) || !see(known)) {
+        if (!isSign(s) || !seeGrid(known)) {
             return NONE;
         }
         census.countWays();
@@ -318,7 +322,7 @@ public final class GridRoom {
     }
 
     public int reads(int known, int tablet, int w) {
-        if (!archive.hasWord(tablet, w) || !see(known)) {
+        if (!archive.hasWord(tablet, w) || !seeGrid(known)) {
             return NONE;
         }
         census.countWays();
@@ -336,7 +340,7 @@ public final class GridRoom {
     }
 
     public int settles(int known, int what) {
-        if (what < 0 || what > 1 || !see(known)) {
+        if (what < 0 || what > 1 || !seeGrid(known)) {
             return NONE;
         }
         census.countWays();
@@ -348,7 +352,7 @@ public final class GridRoom {
     }
 
     public int would(int known, int tablet) {
-        if (!archive.hasTablet(tablet) || !tape.isName() || !see(known)
+        if (!archive.hasTablet(tablet) || !tape.isName() || !seeGrid(known)
                 || !archive.tablets[tablet].countsOn(known)) {
             return NONE;
         }
@@ -359,7 +363,7 @@ public final class GridRoom {
     }
 
     public int fits(int known) {
-        if (!tape.isName() || !see(known)) {
+        if (!tape.isName() || !seeGrid(known)) {
             return NONE;
         }
         search.seatNames(0);
@@ -369,7 +373,7 @@ public final class GridRoom {
     }
 
     public int doubt(int known, int what) {
-        if (what < 0 || what > 1 || !see(known)) {
+        if (what < 0 || what > 1 || !seeGrid(known)) {
             return NONE;
         }
         census.findDoubt();
@@ -377,7 +381,7 @@ public final class GridRoom {
     }
 
     public int could(int known, int s, int i, int what) {
-        if (!isSign(s) || i < 0 || what < 0 || what > 1 || !see(known)) {
+        if (!isSign(s) || i < 0 || what < 0 || what > 1 || !seeGrid(known)) {
             return NONE;
         }
         census.countWays();
@@ -387,7 +391,7 @@ public final class GridRoom {
     }
 
     public int inGrid(int known, int cell) {
-        if (cell < 0 || cell >= CELLS || !see(known)) {
+        if (cell < 0 || cell >= CELLS || !seeGrid(known)) {
             return NONE;
         }
         census.countWays();
@@ -395,7 +399,7 @@ public final class GridRoom {
     }
 
     public int where(int known) {
-        if (!tape.isName() || !see(known)) {
+        if (!tape.isName() || !seeGrid(known)) {
             return NONE;
         }
         search.seatNames(0);
@@ -472,6 +476,15 @@ public final class GridRoom {
             firstClash.made = false;
             census.forgetCounts();
         }
+        return true;
+    }
+
+    /** Makes the view of a DAY, and its LINKS with it. */
+    private boolean seeGrid(int known) {
+        if (!see(known)) {
+            return false;
+        }
+        grid.make();
         return true;
     }
 
@@ -627,6 +640,9 @@ public final class GridRoom {
         final int[] leastCounts = new int[MOST_CLAUSES];
         final int[] letters = new int[MOST_CLAUSES];
         final int[] writtenAs = new int[MOST_CLAUSES];
+        /** The NAME that is being spelled: its letters as they are written, and which vowels they are. */
+        private final int[] written = new int[MOST_LETTERS];
+        private final int[] vowels = new int[MOST_LETTERS];
 
         /** Whether ROWS of a length that are unlike in one place alone are such as a CLAUSE means. */
         boolean means(int c, int length, int place) {
@@ -636,7 +652,52 @@ public final class GridRoom {
             return place == (wheres[c] == LAST ? length : wheres[c]) - 1;
         }
 
-        int writtenFor(int letter) {
+        /** Puts a NAME's CELLS into a row; how many. */
+        int spell(int[] name, int size, int[] cells) {
+            for (int i = 0; i < size; i++) {
+                written[i] = writtenFor(name[i]);
+                vowels[i] = vowelOf(written[i]);
+            }
+            int made = 0;
+            for (int i = 0; i < size; i++) {
+                int cell = cellMadeBy(i, size);
+                if (cell != NONE) {
+                    cells[made] = cell;
+                    made++;
+                }
+            }
+            return made;
+        }
+
+        private int cellMadeBy(int i, int size) {
+            if (vowels[i] != NONE) {
+                boolean alone = i == 0 || vowels[i - 1] != NONE;
+                return alone ? vowels[i] : NONE;
+            }
+            boolean open = i + 1 < size && vowels[i + 1] != NONE;
+            if (!open && drops(written[i])) {
+                return NONE;
+            }
+            int vowel = vowelFor(i, size);
+            return vowel == NONE ? NONE : (written[i] - 'a' + 1) * VOWELS + vowel;
+        }
+
+        /** The next vowel behind a consonant, without such the latest one ahead of it. */
+        private int vowelFor(int i, int size) {
+            for (int next = i + 1; next < size; next++) {
+                if (vowels[next] != NONE) {
+                    return vowels[next];
+                }
+            }
+            for (int back = i - 1; back >= 0; back--) {
+                if (vowels[back] != NONE) {
+                    return vowels[back];
+                }
+            }
+            return NONE;
+        }
+
+        private int writtenFor(int letter) {
             for (int c = clauses - 1; c >= 0; c--) {
                 if (kinds[c] == WRITE && letters[c] == letter) {
                     return writtenAs[c];
@@ -645,7 +706,7 @@ public final class GridRoom {
             return letter;
         }
 
-        boolean drops(int letter) {
+        private boolean drops(int letter) {
             for (int c = 0; c < clauses; c++) {
                 if (kinds[c] == DROP && letters[c] == letter) {
                     return true;
@@ -1296,7 +1357,6 @@ public final class GridRoom {
                 return;
             }
             made = true;
-            grid.make();
             kind = NONE;
             steps = 0;
             for (int a = 0; a < SIGNS; a++) {
@@ -1392,7 +1452,6 @@ public final class GridRoom {
 
         /** By SIGN, then by CELL: in how many WAYS it has that, as they were tallied last. */
         final int[] tally = new int[SIGNS * CELLS];
-        final int[][] cellsAt = new int[SEATS][MOST_LETTERS];
         final int[] cellOf = new int[SIGNS];
         private final Archive archive;
         private final Grid grid;
@@ -1400,11 +1459,11 @@ public final class GridRoom {
         private final int[] nameAt = new int[SEATS];
         private final int[] tabletAt = new int[SEATS];
         private final int[] sizeAt = new int[SEATS];
+        private final int[][] cellsAt = new int[SEATS][MOST_LETTERS];
         private final int[] rowAt = new int[SEATS];
         /** The SIGNS to which a seat was the first to give a CELL. */
         private final int[][] newAt = new int[SEATS][MOST_PLACES];
         private final int[] newCountAt = new int[SEATS];
-        private final int[] written = new int[MOST_LETTERS];
         private long given;
         private final long[] byConsonant = new long[CONSONANTS];
         private final long[] byVowel = new long[VOWELS];
@@ -1417,69 +1476,17 @@ public final class GridRoom {
             this.grid = grid;
         }
 
-        // -- spelling
-
-        /** A NAME's CELLS at the first seat. */
-        int spellAlone(Name name) {
-            seats = 0;
-            return spell(name.letters, name.size, cellsAt[0]);
-        }
-
-        private int spell(int[] letters, int size, int[] cells) {
-            for (int i = 0; i < size; i++) {
-                written[i] = archive.current.writtenFor(letters[i]);
-            }
-            int made = 0;
-            for (int i = 0; i < size; i++) {
-                int cell = cellMadeBy(i, size);
-                if (cell != NONE) {
-                    cells[made] = cell;
-                    made++;
-                }
-            }
-            return made;
-        }
-
-        private int cellMadeBy(int i, int size) {
-            int letter = written[i];
-            if (isVowel(letter)) {
-                boolean alone = i == 0 || isVowel(written[i - 1]);
-                return alone ? vowelOf(letter) : NONE;
-            }
-            boolean open = i + 1 < size && isVowel(written[i + 1]);
-            if (!open && archive.current.drops(letter)) {
-                return NONE;
-            }
-            int vowel = vowelFor(i, size);
-            return vowel == NONE ? NONE : (letter - 'a' + 1) * VOWELS + vowel;
-        }
-
-        private int vowelFor(int i, int size) {
-            for (int next = i + 1; next < size; next++) {
-                if (isVowel(written[next])) {
-                    return vowelOf(written[next]);
-                }
-            }
-            for (int back = i - 1; back >= 0; back--) {
-                if (isVowel(written[back])) {
-                    return vowelOf(written[back]);
-                }
-            }
-            return NONE;
-        }
-
         // -- seats
 
         /** A seat for each NAME that takes part, but for those left out (as bits). */
         void seatNames(int leftOut) {
-            grid.make();
             seats = 0;
             for (int i = 0; i < archive.nameCount; i++) {
                 if ((leftOut >>> i & 1) == 0 && archive.nameCounts(i)) {
                     Name name = archive.names[i];
                     nameAt[seats] = i;
                     tabletAt[seats] = name.tablet;
-                    sizeAt[seats] = spell(name.letters, name.size, cellsAt[seats]);
+                    sizeAt[seats] = archive.current.spell(name.letters, name.size, cellsAt[seats]);
                     seats++;
                 }
             }
@@ -1488,7 +1495,7 @@ public final class GridRoom {
         /** The new NAME's seat is behind the others and takes no part by itself. */
         void seatNew(int[] letters, int size) {
             nameAt[seats] = NONE;
-            sizeAt[seats] = spell(letters, size, cellsAt[seats]);
+            sizeAt[seats] = archive.current.spell(letters, size, cellsAt[seats]);
         }
 
         int rowOfName(int name) {
@@ -1830,25 +1837,14 @@ public final class GridRoom {
                     taking |= 1 << i;
                 }
             }
-            // Without any NAME there is a WAY: the last set does, if no other.
+            // Without any NAME there is a WAY: the whole set does, if no smaller one.
             doubted = taking;
-            for (int size = 0; size < Integer.bitCount(taking); size++) {
-                int set = leastSetOf(size, taking);
-                if (set != NONE) {
+            for (int set = 0; set < taking; set++) {
+                boolean fewer = Integer.bitCount(set) < Integer.bitCount(doubted);
+                if (fewer && (set & ~taking) == 0 && search.hasWayWithout(set)) {
                     doubted = set;
-                    return;
                 }
             }
-        }
-
-        private int leastSetOf(int size, int taking) {
-            for (int set = 0; set <= taking; set++) {
-                if ((set & ~taking) == 0 && Integer.bitCount(set) == size
-                        && search.hasWayWithout(set)) {
-                    return set;
-                }
-            }
-            return NONE;
         }
 
         // -- over all WORDS
