@@ -112,6 +112,7 @@ public final class NamesTest {
         spelled(c, "drop k;", "ak", "a");
         spelled(c, "drop k;", "kka", "ka");
         spelled(c, "drop k; write a as a;", "aka", "a ka");
+        spelled(c, "drop t;".repeat(12), "satks", "sa ka sa");
         spelled(c, "consonant first; drop t; vowel last;", "tat", "ta");
     }
 

@@ -173,11 +173,22 @@ public final class TextsTest {
         c.due("the latest has one", room.place(), 19);
         Checks.tablet(room, "1.");
         c.due("the latest has none again", room.place(), -1);
+        // What stood behind the end of the TAPE is no part of the text.
+        Checks.tape(room, "write a as ee;");
+        room.end(12);
+        c.due("a WORD that was cut", room.rules(), -2);
+        c.due("has one letter, and then the end", room.place(), 12);
+        Checks.tape(room, "1 2.345");
+        room.end(5);
+        c.due("figures that were cut", room.tablet(), -2);
+        c.due("are one, and then the end", room.place(), 5);
         // RULES with a FAULT leave those that were told ahead.
         Checks.rules(room, "drop k; drop t;");
         Checks.rules(room, "drop k; drop t; drop s; drop a;");
         Checks.name(room, "kak", 0);
         c.due("a FAULT changes nothing", room.spelled(0, 0), 1);
+        c.due("of the last ones that have none", room.pairs(1, 1, 2, 0), 0);
+        c.due("which are two CLAUSES", room.pairs(2, 1, 2, 0), -1);
         c.due("nor how many were told", room.count(2), 2);
     }
 

@@ -107,6 +107,8 @@ public final class WaysTest {
         c.due("no day", like.inGrid(1, KA), -1);
         GridRoom none = room(tablets("1 2. 3."), "kakaka 0");
         c.due("no ROW of its length", none.ways(0), 0);
+        GridRoom eight = room(tablets("1.2.3.4.5.6.7.8."), "kaku 0");
+        c.due("no ROW of its length among eight", eight.ways(0), 0);
         GridRoom bare = room(tablets("1 2. 3."), "k 0");
         c.due("no CELLS", bare.ways(0), 0);
         c.due("given of none", bare.given(0, 0, 1), -1);
@@ -495,6 +497,21 @@ public final class WaysTest {
         c.due("3", room.could(0, 3, 0, 0), KA);
         c.due("4", room.could(0, 4, 0, 0), KU);
         c.due("no grid", room.inGrid(0, KA), -1);
+        // Whatever is asked for between leaves what all WAYS say as it is.
+        c.due("way 3", room.way(0, 3, 0), 3);
+        c.due("way 2", room.given(0, 2, 3), KA);
+        Checks.tape(room, "tu");
+        c.due("would", room.would(0, 0), 0);
+        Checks.tape(room, "tatu");
+        c.due("would, of 4 5 with each other one", room.would(0, 0), 6);
+        Checks.tape(room, "tatu");
+        c.due("fits", room.fits(0), 4);
+        Checks.tape(room, "tatu");
+        c.due("where", room.where(0), 0);
+        c.due("doubt", room.doubt(0, 0), 0);
+        c.due("KU as often as ever", room.could(0, 1, 1, 1), 2);
+        c.due("KA as often as ever", room.could(0, 1, 0, 1), 1);
+        c.due("as many WAYS as ever", room.ways(0), 4);
         GridRoom grid = room(tablets("1 2. 1 3.", "4."), "keka 0", "tu 1");
         c.due("in all WAYS", grid.inGrid(0, KE), 1);
         c.due("not in all", grid.inGrid(0, KA), -1);
