@@ -152,7 +152,7 @@ public final class GridRoom {
         if (archive.hands.size >= MOST_HELD) {
             return false;
         }
-        archive.hands.hear(archive.today, hand, pairOf(a, b), v);
+        archive.hands.hear(archive.today, hand, a, b, v);
         forgetView();
         return true;
     }
@@ -562,6 +562,11 @@ public final class GridRoom {
         return set == 0 ? NONE : Long.bitCount((set & -set) - 1);
     }
 
+    private static void join(long[] next, int a, int b) {
+        next[a] |= 1L << b;
+        next[b] |= 1L << a;
+    }
+
     /** All SIGNS that are next to one of a set. */
     private static long around(long[] next, long set) {
         long all = 0;
@@ -576,7 +581,7 @@ public final class GridRoom {
     /** All SIGNS that can be come to from one, itself too. */
     private static long reachOf(long[] next, int from) {
         long seen = 1L << from;
-        long edge = seen;
+        long edge = next[from] == 0 ? 0 : seen;
         for (int round = 0; round < SIGNS && edge != 0; round++) {
             edge = around(next, edge) & ~seen;
             seen |= edge;
@@ -1032,38 +1037,39 @@ public final class GridRoom {
         int size;
         private final int[] days = new int[MOST_HELD];
         private final int[] who = new int[MOST_HELD];
-        private final int[] pairs = new int[MOST_HELD];
+        private final int[] lows = new int[MOST_HELD];
+        private final int[] highs = new int[MOST_HELD];
         private final int[] held = new int[MOST_HELD];
         /** For each pair the HANDS whose latest word on it has been weighed, as bits. */
         private final int[] weighed = new int[PAIRS];
         private final int[] weights = new int[PAIRS];
         private final long[] ones = new long[SIGNS];
 
-        void hear(int day, int hand, int pair, int v) {
+        void hear(int day, int hand, int a, int b, int v) {
             days[size] = day;
             who[size] = hand;
-            pairs[size] = pair;
+            lows[size] = Math.min(a, b);
+            highs[size] = Math.max(a, b);
             held[size] = v;
             size++;
         }
 
         /** As which SIGN each STANDS. */
         void stand(int known, int[] into) {
-            Arrays.fill(weighed, 0);
-            Arrays.fill(weights, 0);
+            Arrays.fill(ones, 0L);
+            for (int i = 0; i < size; i++) {
+                weighed[pairOf(lows[i], highs[i])] = 0;
+                weights[pairOf(lows[i], highs[i])] = 0;
+            }
             // Backwards, as what a HAND told last of a pair is what counts.
             for (int i = size - 1; i >= 0; i--) {
                 if (days[i] <= known) {
-                    weigh(pairs[i], who[i], held[i]);
+                    weigh(pairOf(lows[i], highs[i]), who[i], held[i]);
                 }
             }
-            for (int b = 0; b < SIGNS; b++) {
-                ones[b] = 0;
-                for (int a = 0; a < b; a++) {
-                    if (weights[pairOf(a, b)] > 0) {
-                        ones[a] |= 1L << b;
-                        ones[b] |= 1L << a;
-                    }
+            for (int i = 0; i < size; i++) {
+                if (weights[pairOf(lows[i], highs[i])] > 0) {
+                    join(ones, lows[i], highs[i]);
                 }
             }
             for (int s = 0; s < SIGNS; s++) {
@@ -1193,12 +1199,11 @@ public final class GridRoom {
                 return;
             }
             made = true;
-            gatherRows();
-            comparePairs();
             for (int sort = 0; sort < SORTS; sort++) {
                 Arrays.fill(linked[sort], 0L);
                 Arrays.fill(parted[sort], 0L);
             }
+            gatherRows();
             linkByClauses();
             linkByShares();
             for (int sort = 0; sort < SORTS; sort++) {
@@ -1258,7 +1263,7 @@ public final class GridRoom {
             return key;
         }
 
-        private void comparePairs() {
+        private void linkByClauses() {
             for (int c = 0; c < archive.current.clauses; c++) {
                 Arrays.fill(tells[c], 0);
             }
@@ -1281,35 +1286,20 @@ public final class GridRoom {
             if ((key ^ other) >>> shift >= 1L << SIGN_BITS) {
                 return;
             }
-            int pair = pairOf(signIn(key, shift), signIn(other, shift));
+            int a = signIn(key, shift);
+            int b = signIn(other, shift);
             for (int c = 0; c < archive.current.clauses; c++) {
                 if (archive.current.means(c, length, place)) {
-                    tells[c][pair]++;
+                    tells[c][pairOf(a, b)]++;
+                    if (tells[c][pairOf(a, b)] >= archive.current.leastCounts[c]) {
+                        join(linked[archive.current.kinds[c]], a, b);
+                    }
                 }
             }
         }
 
         private static int signIn(long key, int shift) {
             return (int) (key >>> shift & (1L << SIGN_BITS) - 1) - 1;
-        }
-
-        private void linkByClauses() {
-            Rules rules = archive.current;
-            for (int c = 0; c < rules.clauses; c++) {
-                if (isSort(rules.kinds[c])) {
-                    linkByClause(linked[rules.kinds[c]], tells[c], rules.leastCounts[c]);
-                }
-            }
-        }
-
-        private void linkByClause(long[] next, int[] told, int least) {
-            for (int b = 0; b < SIGNS; b++) {
-                for (int a = 0; a < b; a++) {
-                    if (told[pairOf(a, b)] >= least) {
-                        join(next, a, b);
-                    }
-                }
-            }
         }
 
         private void linkByShares() {
@@ -1321,11 +1311,6 @@ public final class GridRoom {
                     join(share.is ? linked[share.sort] : parted[share.sort], a, b);
                 }
             }
-        }
-
-        private static void join(long[] next, int a, int b) {
-            next[a] |= 1L << b;
-            next[b] |= 1L << a;
         }
     }
 
@@ -1360,15 +1345,33 @@ public final class GridRoom {
             kind = NONE;
             steps = 0;
             for (int a = 0; a < SIGNS; a++) {
-                measure(CONSONANT, a);
-                measure(VOWEL, a);
-                for (int b = a + 1; b < SIGNS; b++) {
-                    weigh(a, b);
-                }
+                weighAll(a, clashingAbove(a));
             }
             if (kind != NONE) {
                 for (int sort = firstSort; sort <= lastSort; sort++) {
                     trace(sort);
+                }
+            }
+        }
+
+        private long clashingAbove(int a) {
+            long byConsonant = grid.classes[CONSONANT][a];
+            long byVowel = grid.classes[VOWEL][a];
+            long clashing = byConsonant & byVowel
+                    | byConsonant & grid.parted[CONSONANT][a]
+                    | byVowel & grid.parted[VOWEL][a];
+            return clashing & (-1L << (a + 1));
+        }
+
+        private void weighAll(int a, long clashing) {
+            if (clashing == 0) {
+                return;
+            }
+            measure(CONSONANT, a);
+            measure(VOWEL, a);
+            for (int b = a + 1; b < SIGNS; b++) {
+                if (has(clashing, b)) {
+                    weigh(a, b);
                 }
             }
         }
@@ -1452,6 +1455,8 @@ public final class GridRoom {
 
         /** By SIGN, then by CELL: in how many WAYS it has that, as they were tallied last. */
         final int[] tally = new int[SIGNS * CELLS];
+        /** The SIGNS that have a CELL in some of these. */
+        long tallied;
         final int[] cellOf = new int[SIGNS];
         private final Archive archive;
         private final Grid grid;
@@ -1514,6 +1519,7 @@ public final class GridRoom {
             seatNames(0);
             clearCells();
             Arrays.fill(tally, 0);
+            tallied = 0;
             tallying = true;
             layAll(ALL);
             tallying = false;
@@ -1722,6 +1728,7 @@ public final class GridRoom {
                 int sign = newAt[seat][i];
                 if (cellOf[sign] != NONE) {
                     tally[sign * CELLS + cellOf[sign]] += times;
+                    tallied |= 1L << sign;
                 }
             }
         }
@@ -1780,7 +1787,7 @@ public final class GridRoom {
         /** CELL i of those that a SIGN has in some WAY. */
         int possibleCell(int sign, int i) {
             int left = i;
-            for (int cell = 0; cell < CELLS; cell++) {
+            for (int cell = 0; cell < CELLS && has(search.tallied, sign); cell++) {
                 if (waysWith(sign, cell) > 0) {
                     if (left == 0) {
                         return cell;
@@ -1818,7 +1825,7 @@ public final class GridRoom {
         int mostAgreeing(int sign) {
             int agreeing = 0;
             int without = total;
-            for (int cell = 0; cell < CELLS; cell++) {
+            for (int cell = 0; cell < CELLS && has(search.tallied, sign); cell++) {
                 int times = waysWith(sign, cell);
                 agreeing = Math.max(agreeing, times);
                 without -= times;

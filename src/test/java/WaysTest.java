@@ -347,6 +347,10 @@ public final class WaysTest {
         // 1: KA three times; 2, 3, 8: none three times; 9: KU twice, none twice
         c.due("the ninth", third.settles(0, 0), 9);
         c.due("two agree", third.settles(0, 1), 2);
+        GridRoom fourth = room(tablets("1 2. 3 2. 4 2."), "kaa 0");
+        // 2: CELL 0 in all three; 1, 3, 4: none twice
+        c.due("not the next SIGN's CELL", fourth.settles(0, 0), 1);
+        c.due("two agree", fourth.settles(0, 1), 2);
         GridRoom none = room(tablets("1."), "kaku 0");
         c.due("no WAY", none.settles(0, 0), -1);
         c.due("no WAY", none.settles(0, 1), -1);
