@@ -731,6 +731,8 @@ public final class GridRoom {
         private static final int CANNOT_BE = 2;
         private static final int TOO_MANY = 3;
         private static final int MOST_FIGURES = 2;
+        private static final int USUAL_LENGTH = 3;
+        private static final int LEAST_LENGTH = 2;
         private static final int MOST_TIMES = 99;
 
         final int[] bytes = new int[MOST_BYTES];
@@ -852,8 +854,16 @@ public final class GridRoom {
                 case Rules.DROP:
                     return readDrop(into, c);
                 default:
-                    return readWhere(into, c) && readLength(into, c) && readCount(into, c);
+                    return readSharing(into, c);
             }
+        }
+
+        private boolean readSharing(Rules into, int c) {
+            into.leastLengths[c] = USUAL_LENGTH;
+            into.leastCounts[c] = 1;
+            return readWhere(into, c)
+                    && readOption("length", into.leastLengths, c, LEAST_LENGTH, MOST_PLACES)
+                    && readOption("count", into.leastCounts, c, 1, MOST_TIMES);
         }
 
         private boolean readWhere(Rules into, int c) {
@@ -870,30 +880,16 @@ public final class GridRoom {
             return true;
         }
 
-        private boolean readLength(Rules into, int c) {
-            into.leastLengths[c] = 3;
-            if (!isWord("length")) {
+        /** A word and the number behind it, or neither: then what is there stays. */
+        private boolean readOption(String word, int[] into, int c, int least, int most) {
+            if (!isWord(word)) {
                 return true;
             }
             advance();
-            if (!isNumber(2, MOST_PLACES)) {
+            if (!isNumber(least, most)) {
                 return false;
             }
-            into.leastLengths[c] = value;
-            advance();
-            return true;
-        }
-
-        private boolean readCount(Rules into, int c) {
-            into.leastCounts[c] = 1;
-            if (!isWord("count")) {
-                return true;
-            }
-            advance();
-            if (!isNumber(1, MOST_TIMES)) {
-                return false;
-            }
-            into.leastCounts[c] = value;
+            into[c] = value;
             advance();
             return true;
         }
