@@ -227,7 +227,7 @@ public final class PromisesThreeEdgesTest extends Edges {
 
     /** Promise 32: "What a SIGN (as it STANDS) COULD BE: of CELL i of these what 0 the CELL, 1 in how many WAYS." */
     void couldBe() {
-        GridRoom room = named(room("0 1. 1 0. 2 0. 3 0."), "kuka 0");
+        GridRoom room = named(room("0 1. 1 0. 2 0. 3 0.", "4. 5."), "kuka 0");
         due("the first CELL", room.could(0, 0, 0, 0), KA);
         due("in three WAYS", room.could(0, 0, 0, 1), 3);
         due("the second", room.could(0, 0, 1, 0), KU);
@@ -238,6 +238,19 @@ public final class PromisesThreeEdgesTest extends Edges {
         room.holds(0, 3, 2, 1);
         due("3 STANDS as 2", room.could(1, 3, 0, 1), 2);
         due("not on DAY 0", room.could(0, 3, 0, 1), 1);
+        // What else is asked for leaves that as it is.
+        due("WAY 3", room.way(0, 3, 0), 3);
+        due("WAY 3", room.given(0, 3, 0), KA);
+        tape(room, "ta");
+        due("would", room.would(0, 1), 8);
+        tape(room, "ta");
+        due("where", room.where(0), 1);
+        tape(room, "ta");
+        due("fits", room.fits(0), 2);
+        due("doubt", room.doubt(0, 0), 0);
+        due("in three WAYS still", room.could(0, 0, 0, 1), 3);
+        due("in one WAY still", room.could(0, 0, 1, 1), 1);
+        due("in one WAY still", room.could(0, 3, 0, 1), 1);
         GridRoom ends = named(room("39 0."), "azu 0");
         due("CELL 0", ends.could(0, 39, 0, 0), 0);
         due("CELL 134", ends.could(0, 0, 0, 0), 134);

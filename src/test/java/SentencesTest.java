@@ -27,6 +27,11 @@ public final class SentencesTest {
     private final Map<String, boolean[]> quoted = new LinkedHashMap<>();
 
     public static void main(String[] args) throws Exception {
+        // The other tests hold what the document says without it; this one alone looks into it.
+        if (!Files.exists(DOCUMENT)) {
+            System.out.println(DOCUMENT + " is not here: nothing to look in");
+            return;
+        }
         SentencesTest test = new SentencesTest();
         test.readDocument(Files.readString(DOCUMENT));
         try (Stream<Path> all = Files.list(TESTS)) {

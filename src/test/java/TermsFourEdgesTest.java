@@ -111,6 +111,8 @@ public final class TermsFourEdgesTest extends Edges {
         dueSpelled("drop r; write l as r;", "al", "a");
         dueSpelled("drop l; write l as r;", "al", "a ra");
         dueSpelled("drop s;", "s", "");
+        dueSpelled("vowel last;".repeat(12), "as", "a sa");
+        dueSpelled("vowel last;".repeat(11) + "drop s;", "as", "a");
     }
 
     /** Terms 4: "else it makes a CELL with the next vowel of the NAME," */
@@ -214,6 +216,7 @@ public final class TermsFourEdgesTest extends Edges {
         due("eight CELLS", named(room(tablet), "aeiouaei 0").ways(0), 0);
         due("no CELLS", named(room(tablet), "bcd 0").ways(0), 0);
         due("one too many for all", named(room("1. 2."), "kaku 0").ways(0), 0);
+        due("none of eight ROWS", named(room("1.2.3.4.5.6.7.8."), "kaku 0").ways(0), 0);
         due("one too few for all", named(room("1 2. 2 3."), "ka 0").ways(0), 0);
     }
 
@@ -359,6 +362,11 @@ public final class TermsFourEdgesTest extends Edges {
         due("two agree that it has none", without.settles(0, 1), 2);
         GridRoom all = named(room("1 2."), "kaku 0");
         due("all agree about all", all.settles(0, 0), 0);
+        for (int s = 0; s < 40; s++) {
+            GridRoom one = named(room(s + ". ?."), "a 0");
+            due("CELL 0 or none: SIGN " + s, one.settles(0, 0), s);
+            due("one agrees", one.settles(0, 1), 1);
+        }
         due("no WAY", named(room("1 1."), "kaku 0").settles(0, 0), NONE);
     }
 
@@ -458,6 +466,9 @@ public final class TermsFourEdgesTest extends Edges {
             due("in one WAY", cells.could(0, 7, i, 1), 1);
         }
         due("no seventh", cells.could(0, 7, 6, 0), NONE);
+        GridRoom next = named(room("1 2. 39 38."), "kaa 0");
+        due("no CELL of the next SIGN's", next.could(0, 1, 1, 0), NONE);
+        due("nor behind the last SIGN", next.could(0, 39, 1, 0), NONE);
         due("no WAY", named(room("1 1."), "kaku 0").could(0, 1, 0, 0), NONE);
     }
 

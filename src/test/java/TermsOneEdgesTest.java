@@ -166,6 +166,7 @@ public final class TermsOneEdgesTest extends Edges {
         room.day(1);
         int[] links = {0, 0, 1, 1, 1, 0, 0, 0};
         int[] ways = {1, 1, 3, 3, 3, 1, 1, 1};
+        due("SHARE on DAY 3, asked first", room.links(VOWEL, 3), 1);
         for (int known = 0; known < links.length; known++) {
             due("SHARE on DAY " + known, room.links(VOWEL, known), links[known]);
             due("both SHARES on DAY " + known, room.clash(known, 2), links[known] == 1 ? 2 : NONE);
@@ -331,6 +332,26 @@ public final class TermsOneEdgesTest extends Edges {
         due("0 against 0", room.sign(2, 0), 2);
         room.holds(3, 1, 2, 2);
         due("0 against none", room.sign(2, 0), 2);
+        int[][] pairs = {{0, 1}, {0, 2}, {1, 2}, {0, 39}, {38, 39}};
+        for (int[] pair : pairs) {
+            for (int least = 0; least < 40; least += 4) {
+                oneOfAllPairs(pair[0], pair[1], least);
+            }
+        }
+    }
+
+    /** Two are held for the same; of the lowest and four above it that nothing is said of leaves all others two. */
+    private void oneOfAllPairs(int a, int b, int least) {
+        GridRoom room = new GridRoom();
+        room.holds(0, a, b, 1);
+        for (int low = least; low < least + 4; low++) {
+            for (int high = low + 1; high < 40; high++) {
+                room.holds(1, low, high, 2);
+            }
+        }
+        for (int s = 0; s < 40; s++) {
+            due(a + " and " + b + " alone are ONE: " + s, room.sign(s, 0), s == b ? a : s);
+        }
     }
 
     /** Terms 1: "and so on by others." */

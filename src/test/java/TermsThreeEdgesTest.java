@@ -37,12 +37,27 @@ public final class TermsThreeEdgesTest extends Edges {
         GridRoom room = ruled(room("1 2 3. 1 2 4. 1 2 3."), "consonant last;");
         due("3 and 4", room.links(CONSONANT, 0), 1);
         due("3 and 4", room.classOf(CONSONANT, 4, 0), 3);
+        int[][] pairs = {{0, 1}, {0, 2}, {1, 2}, {0, 39}, {38, 39}};
+        for (int[] pair : pairs) {
+            for (int least = 0; least < 40; least += 8) {
+                theseTwoAlone(pair[0], pair[1], least);
+            }
+        }
         due("by no CLAUSE of vowel", room.links(VOWEL, 0), 0);
         due("a SIGN with itself", room.pairs(0, 3, 3, 0), 0);
         GridRoom like = ruled(room("1 2 3. 1 2 3."), "consonant last;");
         due("no unlike SIGNS", like.links(CONSONANT, 0), 0);
         GridRoom ends = ruled(room("1 2 0. 1 2 39."), "vowel last;");
         due("0 and 39", ends.classOf(VOWEL, 39, 0), 0);
+    }
+
+    private void theseTwoAlone(int a, int b, int least) {
+        GridRoom room = ruled(room("5 5 " + a + ". 5 5 " + b + "."), "vowel last;");
+        for (int low = least; low < least + 8; low++) {
+            for (int high = low + 1; high < 40; high++) {
+                due(a + " and " + b + " tell of " + low + " and " + high, room.pairs(0, low, high, 0), low == a && high == b ? 1 : 0);
+            }
+        }
     }
 
     /** Terms 3: "if there are count (1 without) or more unlike pairs of ROWS that tell so:" */
@@ -85,6 +100,19 @@ public final class TermsThreeEdgesTest extends Edges {
         due("3 and 4 on DAY 1", room.pairs(0, 3, 4, 1), 1);
         due("4 and 5 on DAY 3", room.pairs(0, 4, 5, 3), 1);
         due("no longer 3 and 4", room.pairs(0, 3, 4, 3), 0);
+        // As many as there can be, all unlike: 24 times 8.
+        GridRoom full = new GridRoom();
+        for (int t = 0; t < 24; t++) {
+            StringBuilder text = new StringBuilder();
+            for (int r = 0; r < 8; r++) {
+                text.append(t).append(" 0 ").append(30 + r).append('.');
+            }
+            tablet(full, text.toString());
+        }
+        rules(full, "vowel last count 24;vowel first count 8;vowel last count 25;");
+        due("a pair of each TABLET", full.pairs(0, 30, 37, 0), 24);
+        due("a pair of each ROW", full.pairs(1, 0, 23, 0), 8);
+        due("8 times 7 and 24 times 23 halves", full.links(VOWEL, 0), 28 + 276);
     }
 
     /** Terms 3: "in which all can be read," */
@@ -198,36 +226,41 @@ public final class TermsThreeEdgesTest extends Edges {
 
     /** Terms 3: "They SHARE also by one that COUNTS and says so;" */
     void sharesThatSayTheyDo() {
-        GridRoom room = new GridRoom();
-        room.day(1);
-        room.share(VOWEL, 2, 1, true);
-        room.day(1);
-        room.away(1, 0);
-        int[] links = {0, 1, 0};
-        for (int known = 0; known < links.length; known++) {
-            due("on DAY " + known, room.links(VOWEL, known), links[known]);
+        for (int sort = 0; sort < 2; sort++) {
+            GridRoom room = new GridRoom();
+            room.day(1);
+            room.share(sort, 2, 1, true);
+            room.day(1);
+            room.away(1, 0);
+            int[] links = {0, 1, 0};
+            for (int known = 0; known < links.length; known++) {
+                due("on DAY " + known, room.links(sort, known), links[known]);
+                due("none of the other SORT", room.links(1 - sort, known), 0);
+            }
+            room.share(sort, 1, 2, true);
+            room.share(sort, 1, 2, true);
+            room.away(1, 1);
+            due("by one of two that COUNTS", room.links(sort, 2), 1);
         }
-        room.share(VOWEL, 1, 2, true);
-        room.share(VOWEL, 1, 2, true);
-        room.away(1, 1);
-        due("by one of two that COUNTS", room.links(VOWEL, 2), 1);
     }
 
     /** Terms 3: "they are PARTED by one that COUNTS and says that they do not." */
     void sharesThatSayTheyDoNot() {
-        GridRoom room = new GridRoom();
-        room.share(VOWEL, 1, 2, true);
-        room.day(1);
-        room.share(VOWEL, 2, 1, false);
-        room.share(VOWEL, 1, 2, false);
-        room.day(1);
-        room.away(1, 1);
-        room.day(1);
-        room.away(1, 2);
-        int[] kinds = {NONE, 2, 2, NONE};
-        for (int known = 0; known < kinds.length; known++) {
-            due("PARTED on DAY " + known, room.clash(known, 2), kinds[known]);
-            due("they SHARE as well on DAY " + known, room.links(VOWEL, known), 1);
+        for (int sort = 0; sort < 2; sort++) {
+            GridRoom room = new GridRoom();
+            room.share(sort, 1, 2, true);
+            room.day(1);
+            room.share(sort, 2, 1, false);
+            room.share(sort, 1, 2, false);
+            room.day(1);
+            room.away(1, 1);
+            room.day(1);
+            room.away(1, 2);
+            int[] kinds = {NONE, 2, 2, NONE};
+            for (int known = 0; known < kinds.length; known++) {
+                due("PARTED on DAY " + known, room.clash(known, 2), kinds[known]);
+                due("they SHARE as well on DAY " + known, room.links(sort, known), 1);
+            }
         }
     }
 
@@ -373,6 +406,12 @@ public final class TermsThreeEdgesTest extends Edges {
         // A lesser SIGN that leads nowhere in time.
         share(room, VOWEL, 1, 2, 4, 0, 9);
         dueClash(room, 1, 9, 2, link(VOWEL, 1, 5), link(VOWEL, 5, 7), link(VOWEL, 7, 9));
+        // The least SIGN of all, between the two.
+        GridRoom zero = new GridRoom();
+        part(zero, VOWEL, 1, 2);
+        share(zero, VOWEL, 1, 3, 2);
+        share(zero, VOWEL, 1, 0, 2);
+        dueClash(zero, 1, 2, 2, link(VOWEL, 1, 0), link(VOWEL, 0, 2));
         // Of both parts of a REASON of kind 1.
         GridRoom both = new GridRoom();
         share(both, CONSONANT, 10, 13, 20);

@@ -35,8 +35,8 @@ public final class TermsTwoEdgesTest extends Edges {
             boolean isBlank = b == 32 || b == 10;
             if (b < '0' || b > '9') {
                 GridRoom room = new GridRoom();
-                int due = isBlank || b == '?' ? 0 : WRONG;
-                due("byte " + b + " between places", tablet(room, "1" + (char) b + "2."), due == WRONG && b == '.' ? 0 : due);
+                int due = isBlank || b == '?' || b == '.' ? 0 : WRONG;
+                due("byte " + b + " between places", tablet(room, "1" + (char) b + "2."), due);
                 room = new GridRoom();
                 due("byte " + b + " ahead of a CLAUSE", rules(room, (char) b + "drop k;"), isBlank ? 1 : WRONG);
                 due("its place", room.place(), isBlank ? NONE : 0);
@@ -65,6 +65,17 @@ public final class TermsTwoEdgesTest extends Edges {
         badRules("dRop k;", WRONG, 0);
         badTablet("a.", WRONG, 0);
         badTablet("1 abc.", WRONG, 2);
+        String[][] words = {{"consonant", "# first;"}, {"vowel", "# first;"}, {"write", "# k as t;"}, {"drop", "# k;"},
+            {"first", "vowel #;"}, {"last", "vowel #;"}, {"length", "vowel 1 # 2;"}, {"count", "vowel 1 # 2;"}, {"as", "write k # t;"}};
+        for (String[] one : words) {
+            goodRules(one[1].replace("#", one[0]), 1);
+            for (int i = 0; i < one[0].length(); i++) {
+                String ahead = one[0].substring(0, i);
+                String behind = one[0].substring(i + 1);
+                badRules(one[1].replace("#", ahead + "q" + behind), WRONG, one[1].indexOf('#'));
+                badRules(one[1].replace("#", ahead + behind), WRONG, one[1].indexOf('#'));
+            }
+        }
     }
 
     /** Terms 2: "N (figures likewise, 1 or 2)," */
@@ -292,6 +303,10 @@ public final class TermsTwoEdgesTest extends Edges {
         badRules("vowel 1 length 0002;", WRONG, 15);
         badRules("111", WRONG, 0);
         badRules("vowel last count 4294967297;", WRONG, 17);
+        // Though 46, 59 and 63 are the numbers of . ; and ?
+        badTablet("1 046 2.", WRONG, 2);
+        badTablet("063.", WRONG, 0);
+        badRules("drop k 059", WRONG, 7);
     }
 
     /** Terms 2: "the end: at how many bytes there are);" */
@@ -447,7 +462,7 @@ public final class TermsTwoEdgesTest extends Edges {
             readAlike(text, plain, tried);
         }
         String[] rules = {"drop k; drop t", "vowel last; vowel 7;", TWELVE + "drop k;", "write k as t; write a as k;",
-            "vowel last length 2 count 1; drop r; drop x; drop y; drop a;", "x"};
+            "vowel last length 2 count 1; drop r; drop x; drop y; drop a;", "x", "vowel first length 6 count 99; drop t; x"};
         for (String text : rules) {
             GridRoom plain = someRoom();
             GridRoom tried = someRoom();
@@ -461,6 +476,10 @@ public final class TermsTwoEdgesTest extends Edges {
         must(tablet(plain, "1.") == 3 && tablet(tried, "1.") == 3, text);
         must(rules(plain, "vowel last;") == 1 && rules(tried, "vowel last;") == 1, text);
         due(text + ": another CLAUSE", tried.pairs(1, 1, 2, 3), NONE);
+        must(name(plain, "akt", 0) == 2 && name(tried, "akt", 0) == 2, text);
+        due(text + ": another CLAUSE", spelled(tried, 2, 3), "a ka ta");
+        due(text + ": another place, length, count", tried.pairs(0, 3, 4, 3), 1);
+        due(text + ": another place, length, count", tried.links(VOWEL, 3), 1);
         due(text + ": another ROW", told(tried, 3, 1, 0), THROWN);
         due(text + ": another place", told(tried, 3, 0, 1), THROWN);
         alike(text, plain, tried);
