@@ -1446,7 +1446,7 @@ public final class GridRoom {
 
     /** Lays NAMES on ROWS, so that GIVEN CELLS agree; each NAME has a seat, one more is for a new one. */
     private static final class Search {
-        static final int ALL = Integer.MAX_VALUE;
+        static final int ALL = 2147483647;
         private static final int SEATS = MOST_NAMES + 1;
 
         /** By SIGN, then by CELL: in how many WAYS it has that, as they were tallied last. */
